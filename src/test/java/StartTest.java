@@ -48,7 +48,7 @@ public final class StartTest {
 
     private static void sizesStay() {
         LatticeSheet x = new LatticeSheet(5, 6);
-        Check.draft(x, 106 - 2, 6, 400);
+        Check.draft(x, 104, 6, 400);
         x.commit(3);
         x.setInput(4, 6);
         x.setInput(5, 7);
