@@ -1,207 +1,147 @@
-/** Promises 4, 5, 7 and 8: commit, setInput, deltas and the edited cell. */
+/** Terms: what happens in an edit, made by commit or by setInput. */
 public final class EditTest {
-    private static final int LOW = Integer.MIN_VALUE;
-    private static final int HIGH = Integer.MAX_VALUE;
-    private static final int DRAFT = LatticeSheet.DRAFT;
-    private static final int NONE = LatticeSheet.NONE;
-    private static final int[] NO_CELLS = {LOW, -100, -99, -2, -1, 4, 5, 12, 13, HIGH};
-
     public static void main(String[] args) {
-        commitRefused();
-        commitAccepted();
-        longestFormula();
-        inputRefused();
-        inputAccepted();
-        deltasOfAllCells();
-        sameFormulaAgain();
-        deltaOutside();
+        deltaFromOldValues();
+        formulaReplaced();
+        leastSolutionOfNewFormulas();
+        deltaOfEveryCell();
         editedCell();
+        equalFormula();
+        otherFormulas();
         Check.end();
     }
 
-    /** A sheet with values, deltas, a cycle and an edited cell that a refused call could spoil. */
-    private static LatticeSheet filled() {
+    private static void deltaFromOldValues() {
+        Check.sentence("1. The values shown are remembered as the old values.");
+        LatticeSheet x = new LatticeSheet(2, 15);
+        int old = 0;
+        for (int v : new int[] {5, 5, 15, 0, 1, 15, 14, 0, 0}) {
+            Check.input(x, 0, v);
+            Check.deltas("from " + old + " to " + v, x, v - old, 0);
+            old = v;
+        }
+        // The values just before the edit count, not those of an earlier one.
+        Check.formula(x, 1, 100, 2, 400);
+        Check.deltas("the other cell", x, 0, 2);
+        Check.input(x, 0, 3);
+        Check.deltas("both", x, 3, 3);
+    }
+
+    private static void formulaReplaced() {
+        Check.sentence("2. The formula of c is replaced.");
+        LatticeSheet x = new LatticeSheet(3, 9);
+        int[][] formulas = {{101, 102, 5, 6, 400, 300, 200}, {7}, {101, 102, 400}, {102, 3, 503, 101, 300}, {0}};
+        for (int[] formula : formulas) {
+            Check.formula(x, 2, formula);
+            Check.reads("replaced", x, 2, formula);
+        }
+        Check.formula(x, 2, formulas[0]);
+        Check.input(x, 2, 8);
+        Check.reads("replaced by a constant", x, 2, 8);
+    }
+
+    private static void leastSolutionOfNewFormulas() {
+        Check.sentence("3. The shown values become the least solution for the new formulas.");
+        LatticeSheet x = new LatticeSheet(3, 9);
+        Check.formula(x, 0, 101, 1, 400);
+        Check.values("one sum", x, 1, 0, 0);
+        Check.formula(x, 1, 100);
+        Check.values("a loop through the sum", x, 9, 9, 0);
+        Check.formula(x, 2, 101, 4, 200);
+        Check.values("a cell beside the loop", x, 9, 9, 4);
+        Check.formula(x, 0, 101);
+        Check.values("a loop without the sum", x, 0, 0, 0);
+        Check.formula(x, 0, 101, 102, 300);
+        Check.values("a greater loop", x, 0, 0, 0);
+        Check.input(x, 2, 4);
+        Check.values("a loop with support", x, 4, 4, 4);
+    }
+
+    private static void deltaOfEveryCell() {
+        Check.sentence("4. The delta of each cell (of every cell, not only of c) becomes "
+            + "its shown value minus its old value.");
         LatticeSheet x = new LatticeSheet(4, 9);
-        Check.formula(x, 1, 102, 100, 300);
-        Check.formula(x, 2, 101);
-        Check.formula(x, 3, 103, 1, 400, 102, 200);
-        x.setInput(0, 6);
-        return x;
-    }
-
-    private static void refusedCommit(LatticeSheet x, int cell, int want) {
-        String before = Check.all(x);
-        Check.due("commit(" + cell + ")", x.commit(cell), want);
-        Check.same("refused commit(" + cell + ")", before, x);
-    }
-
-    private static void refusedInput(LatticeSheet x, int cell, int v, int want) {
-        String before = Check.all(x);
-        Check.due("setInput(" + cell + ", " + v + ")", x.setInput(cell, v), want);
-        Check.same("refused setInput(" + cell + ", " + v + ")", before, x);
-    }
-
-    private static void commitRefused() {
-        LatticeSheet x = filled();
-        for (int cell : NO_CELLS) {
-            refusedCommit(x, cell, LatticeSheet.BAD_CELL);
-        }
-        refusedCommit(x, 0, LatticeSheet.MALFORMED);
-        Check.draft(x, 5);
-        for (int cell : NO_CELLS) {
-            refusedCommit(x, cell, LatticeSheet.BAD_CELL);
-        }
-        for (int depth = 2; depth <= 8; depth++) {
-            Check.draft(x, 5);
-            refusedCommit(x, 3, LatticeSheet.MALFORMED);
-            refusedCommit(x, 4, LatticeSheet.BAD_CELL);
-        }
-        x.dropDraft();
-        // A refused draft can be gone on with.
-        Check.draft(x, 4, 3);
-        refusedCommit(x, 0, LatticeSheet.MALFORMED);
-        Check.draft(x, 400);
-        Check.due("commit(0)", x.commit(0), LatticeSheet.OK);
-        Check.reads("commit after a refusal", x, 0, 4, 3, 400);
-        Check.due("value(0)", x.value(0), 7);
-    }
-
-    private static void commitAccepted() {
-        LatticeSheet x = filled();
-        Check.draft(x, 103, 2, 502);
-        Check.due("commit(0)", x.commit(0), LatticeSheet.OK);
-        Check.reads("committed", x, 0, 103, 2, 502);
-        Check.reads("draft after commit", x, DRAFT);
-        refusedCommit(x, 0, LatticeSheet.MALFORMED);
-        Check.reads("other formula", x, 1, 102, 100, 300);
-        Check.reads("other formula", x, 2, 101);
-        Check.reads("other formula", x, 3, 103, 1, 400, 102, 200);
-        Check.values("after commit", x, 0, 0, 0, 0);
-        Check.deltas("after commit", x, -6, -6, -6, -6);
-    }
-
-    private static void longestFormula() {
-        LatticeSheet x = new LatticeSheet(12, 15);
-        for (int c = 0; c < 12; c++) {
-            Check.draft(x, 1, 2, 3, 4, 400, 400, 400);
-            Check.due("commit(" + c + ")", x.commit(c), LatticeSheet.OK);
-        }
-        // Eight tokens have an even depth, so the longest draft is never a formula.
-        Check.draft(x, 1, 2, 3, 4, 5, 400, 400, 400);
-        refusedCommit(x, 11, LatticeSheet.MALFORMED);
-        for (int c = 0; c < 12; c++) {
-            Check.reads("seven tokens", x, c, 1, 2, 3, 4, 400, 400, 400);
-            Check.due("value(" + c + ")", x.value(c), 10);
-        }
-    }
-
-    private static void inputRefused() {
-        LatticeSheet x = filled();
-        Check.draft(x, 103, 7);
-        for (int cell : NO_CELLS) {
-            refusedInput(x, cell, 0, LatticeSheet.BAD_CELL);
-            refusedInput(x, cell, 10, LatticeSheet.BAD_CELL);
-            refusedInput(x, cell, -1, LatticeSheet.BAD_CELL);
-        }
-        for (int v : new int[] {LOW, -100, -99, -1, 10, 11, 15, 16, 100, HIGH}) {
-            refusedInput(x, 0, v, LatticeSheet.BAD_ARG);
-            refusedInput(x, 3, v, LatticeSheet.BAD_ARG);
-        }
-    }
-
-    private static void inputAccepted() {
-        int[][] drafts = {{}, {5}, {5, 103}, {5, 103, 200}, {1, 2, 3, 4, 5, 6, 7, 8}};
-        for (int[] draft : drafts) {
-            for (int v = 0; v <= 9; v++) {
-                LatticeSheet x = filled();
-                Check.draft(x, draft);
-                Check.due("setInput(1, " + v + ")", x.setInput(1, v), LatticeSheet.OK);
-                Check.reads("set to " + v, x, 1, v);
-                Check.values("set to " + v, x, 6, v, v, v);
-                Check.deltas("set to " + v, x, 0, v - 6, v - 6, v - 6);
-                Check.due("edited()", x.edited(), 1);
-                Check.reads("draft after setInput", x, DRAFT, draft);
-                Check.reads("other formula", x, 0, 6);
-                Check.reads("other formula", x, 2, 101);
-                Check.reads("other formula", x, 3, 103, 1, 400, 102, 200);
-                boolean whole = draft.length == 1 || draft.length == 3;
-                int want = whole ? LatticeSheet.OK : LatticeSheet.MALFORMED;
-                Check.due("commit(0) after setInput", x.commit(0), want);
-            }
-        }
-    }
-
-    private static void deltasOfAllCells() {
-        LatticeSheet x = new LatticeSheet(4, 9);
-        Check.deltas("at the start", x, 0, 0, 0, 0);
-        x.setInput(0, 9);
+        Check.input(x, 0, 9);
         Check.deltas("one up", x, 9, 0, 0, 0);
         Check.formula(x, 1, 100, 2, 200);
         Check.deltas("another up", x, 0, 2, 0, 0);
         Check.formula(x, 2, 100, 101, 400);
         Check.deltas("a third up", x, 0, 0, 9, 0);
-        x.setInput(0, 0);
+        Check.input(x, 0, 0);
         Check.deltas("all down", x, -9, -2, -9, 0);
-        x.setInput(0, 1);
+        Check.input(x, 0, 1);
         Check.deltas("up again", x, 1, 1, 2, 0);
-        Check.draft(x, 1, 2);
-        x.commit(0);
-        x.commit(9);
-        x.setInput(9, 0);
-        x.setInput(0, 10);
-        x.push(9, 9);
-        x.dropDraft();
-        Check.deltas("after calls that are no edits", x, 1, 1, 2, 0);
-        x.setInput(3, 0);
-        Check.deltas("after an edit that moves nothing", x, 0, 0, 0, 0);
-    }
-
-    private static void sameFormulaAgain() {
-        LatticeSheet x = filled();
-        Check.deltas("before", x, 6, 6, 6, 6);
-        x.setInput(0, 6);
-        Check.deltas("same constant", x, 0, 0, 0, 0);
-        Check.due("edited()", x.edited(), 0);
-        x.setInput(0, 4);
-        Check.formula(x, 1, 102, 100, 300);
-        Check.deltas("same formula", x, 0, 0, 0, 0);
-        Check.due("edited()", x.edited(), 1);
-        Check.values("same formula", x, 4, 4, 4, 4);
-    }
-
-    private static void deltaOutside() {
-        LatticeSheet x = filled();
-        for (int cell : NO_CELLS) {
-            Check.due("delta(" + cell + ")", x.delta(cell), NONE);
-        }
-        LatticeSheet widest = new LatticeSheet(12, 15);
-        widest.setInput(11, 15);
-        Check.due("greatest delta", widest.delta(11), 15);
-        widest.setInput(11, 0);
-        Check.due("least delta", widest.delta(11), -15);
+        Check.input(x, 3, 0);
+        Check.deltas("an edit that moves nothing", x, 0, 0, 0, 0);
     }
 
     private static void editedCell() {
-        LatticeSheet x = new LatticeSheet(4, 9);
-        Check.due("edited() at the start", x.edited(), NONE);
-        x.setInput(4, 0);
-        x.setInput(0, 10);
-        x.commit(0);
-        Check.draft(x, 7);
-        x.commit(-1);
-        x.dropDraft();
-        Check.due("edited() before any edit", x.edited(), NONE);
-        x.setInput(2, 0);
-        Check.due("edited() after setInput", x.edited(), 2);
-        Check.draft(x, 7);
-        Check.due("edited() after push", x.edited(), 2);
-        x.commit(3);
-        Check.due("edited() after commit", x.edited(), 3);
-        x.commit(1);
-        x.setInput(1, -1);
-        x.dropDraft();
-        Check.due("edited() after refusals", x.edited(), 3);
-        x.setInput(0, 1);
-        Check.due("edited() of cell 0", x.edited(), 0);
+        Check.sentence("5. c becomes the edited cell.");
+        LatticeSheet x = new LatticeSheet(12, 9);
+        for (int c = 0; c < 12; c++) {
+            Check.input(x, c, c % 3);
+            Check.due("edited() after setInput", x.edited(), c);
+            Check.formula(x, 11 - c, 100 + c);
+            Check.due("edited() after commit", x.edited(), 11 - c);
+        }
+    }
+
+    private static void equalFormula() {
+        Check.sentence("This happens also if the new formula equals the old one; then no value moves, "
+            + "so all deltas become 0, and c becomes the edited cell.");
+        LatticeSheet x = Check.filled();
+        Check.deltas("before", x, 6, 6, 6, 6);
+        Check.due("edited() before", x.edited(), 0);
+        Check.formula(x, 1, 102, 100, 300);
+        sameAsFilled(x, 1);
+        Check.input(x, 0, 5);
+        Check.input(x, 0, 6);
+        Check.deltas("moved and back", x, 1, 1, 1, 1);
+        Check.formula(x, 3, 103, 1, 400, 102, 200);
+        sameAsFilled(x, 3);
+        Check.input(x, 0, 6);
+        sameAsFilled(x, 0);
+        Check.formula(x, 0, 6);
+        sameAsFilled(x, 0);
+        // Already the first edit may change nothing.
+        LatticeSheet y = new LatticeSheet(4, 9);
+        Check.input(y, 2, 0);
+        Check.values("VALUE 0 again", y, 0, 0, 0, 0);
+        Check.deltas("VALUE 0 again", y, 0, 0, 0, 0);
+        Check.due("edited()", y.edited(), 2);
+    }
+
+    private static void sameAsFilled(LatticeSheet x, int edited) {
+        Check.values("equal formula", x, 6, 6, 6, 6);
+        Check.deltas("equal formula", x, 0, 0, 0, 0);
+        Check.due("edited()", x.edited(), edited);
+        Check.reads("equal formula", x, 0, 6);
+        Check.reads("equal formula", x, 1, 102, 100, 300);
+        Check.reads("equal formula", x, 2, 101);
+        Check.reads("equal formula", x, 3, 103, 1, 400, 102, 200);
+    }
+
+    private static void otherFormulas() {
+        Check.sentence("The formulas of cells other than c do not change in an edit.");
+        LatticeSheet x = new LatticeSheet(12, 15);
+        int[] longest = {1, 2, 3, 4, 400, 300, 200};
+        for (int c = 0; c < 12; c++) {
+            Check.formula(x, c, longest);
+        }
+        for (int c = 0; c < 12; c++) {
+            Check.input(x, c, c);
+            others(x, c, longest);
+            Check.formula(x, c, 1, 100 + c, 501, 101, 505, 102, 509);
+            others(x, c, longest);
+            Check.formula(x, c, longest);
+        }
+    }
+
+    private static void others(LatticeSheet x, int edited, int[] formula) {
+        for (int c = 0; c < 12; c++) {
+            if (c != edited) {
+                Check.reads("other formula", x, c, formula);
+            }
+        }
     }
 }
