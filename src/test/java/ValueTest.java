@@ -297,7 +297,6 @@ public final class ValueTest {
         }
     }
 
-    /** Each unit has to go around the whole ring, so the least solution is many rounds away. */
     private static void manyRounds() {
         Check.sentence("All operations are monotone, so there is always a least solution.");
         for (int turn = 1; turn <= 11; turn += 2) {
@@ -305,8 +304,32 @@ public final class ValueTest {
                 ring(turn);
             }
         }
+        slowest(1);
+        slowest(-1);
     }
 
+    /**
+     * Each cell counts up to T alone, one step after the other, and starts when the cell before it
+     * is done: no sheet needs more steps, whichever way the cells are gone through.
+     */
+    private static void slowest(int way) {
+        LatticeSheet x = new LatticeSheet(12, 15);
+        int first = way == 1 ? 0 : 11;
+        Check.formula(x, first, 100 + first, 1, 400);
+        for (int i = 1; i < 12; i++) {
+            int cell = first + way * i;
+            Check.formula(x, cell, 100 + cell - way, 100 + cell, 1, 400, 515);
+        }
+        for (int c = 0; c < 12; c++) {
+            Check.due("counting by " + way + ": value(" + c + ")", x.value(c), 15);
+        }
+        Check.formula(x, first, 100 + first, 1, 400, 14, 200);
+        for (int c = 0; c < 12; c++) {
+            Check.due("stopped by " + way + ": value(" + c + ")", x.value(c), c == first ? 14 : 0);
+        }
+    }
+
+    /** Each unit has to go around the whole ring, so the least solution is many rounds away. */
     private static void ring(int turn) {
         LatticeSheet x = new LatticeSheet(12, 15);
         for (int c = 0; c < 12; c++) {
