@@ -76,7 +76,7 @@ public final class LatticeSheet {
         if (!isArgument(kind, arg)) {
             return BAD_ARG;
         }
-        boolean operand = kind == VALUE || kind == REF;
+        boolean operand = isOperand(kind);
         if (!operand && draftDepth < 2) {
             return SHORT;
         }
@@ -175,6 +175,10 @@ public final class LatticeSheet {
         return cell >= 0 && cell < cellTotal;
     }
 
+    private static boolean isOperand(int kind) {
+        return kind == VALUE || kind == REF;
+    }
+
     private boolean isArgument(int kind, int arg) {
         switch (kind) {
             case VALUE:
@@ -237,8 +241,8 @@ public final class LatticeSheet {
         }
     }
 
-    // push and commit let only formulas through that never run short and leave one element,
-    // so the stack index stays within the stack here.
+    // push and commit let only formulas through that never run short and leave one element.
+    // The stack's index is looked at all the same, so that its bounds show in these lines.
     private int evaluate(int cell) {
         int size = 0;
         int start = cell * MAX_TOKENS;
@@ -246,13 +250,11 @@ public final class LatticeSheet {
         for (int i = start; i < end; i++) {
             int kind = tokens[i] / KIND_UNIT;
             int arg = tokens[i] % KIND_UNIT;
-            if (kind == VALUE) {
-                stack[size] = arg;
+            boolean operand = isOperand(kind);
+            if (operand && size < MAX_TOKENS) {
+                stack[size] = kind == REF ? value(arg) : arg;
                 size++;
-            } else if (kind == REF) {
-                stack[size] = shown[arg];
-                size++;
-            } else {
+            } else if (!operand && size >= 2) {
                 size--;
                 stack[size - 1] = combine(kind, arg, stack[size - 1], stack[size]);
             }

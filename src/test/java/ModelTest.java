@@ -2,6 +2,7 @@ import java.util.List;
 
 /** All promises together: long runs of calls, every answer compared with the model's. */
 public final class ModelTest {
+    private static final int[] ANY = Check.any();
     private static long seed;
 
     public static void main(String[] args) {
@@ -14,6 +15,11 @@ public final class ModelTest {
         for (int i = 0; i < 40; i++) {
             run(2 + below(3), 1 + below(4), 150);
         }
+        // What wears out only slowly, a draft or a table that is never cleared, needs a long run.
+        run(12, 15, 1500);
+        run(2, 1, 1500);
+        run(Check.LOW, Check.HIGH, 300);
+        run(Check.HIGH, Check.LOW, 300);
         Check.end();
     }
 
@@ -40,13 +46,19 @@ public final class ModelTest {
                 wholeFormula(call, x, m);
             }
             compare(call, x, m);
+            oddQuestion(call, x, m, oddNumber(), oddNumber());
         }
+    }
+
+    /** Mostly a number at or near the edges, at times any int at all. */
+    private static int oddNumber() {
+        return below(5) == 0 ? ANY[below(ANY.length)] : below(18) - 2;
     }
 
     /** A call whose arguments may lie at or beyond the edges. */
     private static void oddCall(String call, LatticeSheet x, SheetModel m) {
-        int a = below(18) - 2;
-        int b = below(18) - 2;
+        int a = oddNumber();
+        int b = oddNumber();
         switch (below(5)) {
             case 0:
                 Check.due(call + "commit(" + a + ")", x.commit(a), m.commit(a));
@@ -59,7 +71,7 @@ public final class ModelTest {
                 m.dropDraft();
                 break;
             default:
-                int kind = below(8) - 1;
+                int kind = below(9) == 0 ? oddNumber() : below(8) - 1;
                 Check.due(call + "push(" + kind + ", " + b + ")", x.push(kind, b), m.push(kind, b));
                 break;
         }
@@ -93,13 +105,7 @@ public final class ModelTest {
         Check.due(call + "topValue", x.topValue(), m.topValue());
         List<Integer> order = m.order();
         for (int c = -2; c <= 12; c++) {
-            Check.due(call + "value(" + c + ")", x.value(c), m.value(c));
-            Check.due(call + "delta(" + c + ")", x.delta(c), m.delta(c));
-            Check.due(call + "leader(" + c + ")", x.leader(c), m.leader(c));
-            boolean inside = c >= 0 && c < order.size();
-            int due = inside ? order.get(c) : LatticeSheet.NONE;
-            Check.due(call + "orderAt(" + c + ")", x.orderAt(c), due);
-            Check.due(call + "length(" + c + ")", x.length(c), m.length(c));
+            compareCell(call, x, m, order, c);
             for (int i = -1; i <= 8; i++) {
                 Check.due(call + "tokenAt(" + c + ", " + i + ")", x.tokenAt(c, i), m.tokenAt(c, i));
             }
@@ -107,5 +113,22 @@ public final class ModelTest {
                 Check.due(call + "depends(" + c + ", " + d + ")", x.depends(c, d), m.depends(c, d));
             }
         }
+    }
+
+    private static void compareCell(String call, LatticeSheet x, SheetModel m, List<Integer> order, int c) {
+        Check.due(call + "value(" + c + ")", x.value(c), m.value(c));
+        Check.due(call + "delta(" + c + ")", x.delta(c), m.delta(c));
+        Check.due(call + "leader(" + c + ")", x.leader(c), m.leader(c));
+        boolean inside = c >= 0 && c < order.size();
+        int due = inside ? order.get(c) : LatticeSheet.NONE;
+        Check.due(call + "orderAt(" + c + ")", x.orderAt(c), due);
+        Check.due(call + "length(" + c + ")", x.length(c), m.length(c));
+    }
+
+    /** Every asking call with arguments that may be any ints, in the state the run has come to. */
+    private static void oddQuestion(String call, LatticeSheet x, SheetModel m, int a, int b) {
+        compareCell(call, x, m, m.order(), a);
+        Check.due(call + "tokenAt(" + a + ", " + b + ")", x.tokenAt(a, b), m.tokenAt(a, b));
+        Check.due(call + "depends(" + a + ", " + b + ")", x.depends(a, b), m.depends(a, b));
     }
 }
